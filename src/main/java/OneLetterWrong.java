@@ -36,8 +36,7 @@ public final class OneLetterWrong {
     private final Breakers breakers;
 
     public OneLetterWrong(int a, int l) {
-        int letters = Math.max(2, Math.min(5, a));
-        words = new Words(letters, Words.lengthFor(letters, l));
+        words = new Words(a, l);
         kept = new Book(words);
         imageKept = new Book(words);
         told = new Log();
@@ -411,9 +410,9 @@ public final class OneLetterWrong {
         private final int[] power;
         private final int[] letterAt;
 
-        Words(int letters, int length) {
-            this.letters = letters;
-            this.length = length;
+        Words(int wantedLetters, int wantedLength) {
+            letters = Math.max(2, Math.min(5, wantedLetters));
+            length = lengthFor(letters, wantedLength);
             count = power(letters, length);
             power = new int[length];
             for (int place = 0; place < length; place++) {
@@ -429,7 +428,7 @@ public final class OneLetterWrong {
             }
         }
 
-        static int lengthFor(int letters, int wanted) {
+        private static int lengthFor(int letters, int wanted) {
             int length = Math.max(2, Math.min(8, wanted));
             for (int i = 0; i < 8 && power(letters, length) > MOST_COUNT; i++) {
                 length--;
@@ -453,8 +452,13 @@ public final class OneLetterWrong {
             return letterAt[word * length + place];
         }
 
+        /** The word with the first of the letters at a place. */
+        int cleared(int word, int place) {
+            return word - letterAt[word * length + place] * power[place];
+        }
+
         int changed(int word, int place, int into) {
-            return word + (into - letter(word, place)) * power[place];
+            return cleared(word, place) + into * power[place];
         }
 
         int unlike(int one, int other) {
@@ -539,6 +543,9 @@ public final class OneLetterWrong {
         /** Whether the first letters of two words are completed by just the same ends. */
         boolean sameEnds(int one, int other, int depth) {
             int span = Words.power(words.letters, words.length - depth);
+            if (span <= 0) {
+                return false;
+            }
             int oneFirst = one - one % span;
             int otherFirst = other - other % span;
             if (oneFirst == otherFirst) {
@@ -577,7 +584,8 @@ public final class OneLetterWrong {
                 return 0;
             }
             int span = Words.power(words.letters, words.length - depth - 1);
-            int first = member - member % (span * words.letters);
+            int wholeSpan = span * words.letters;
+            int first = wholeSpan > 0 ? member - member % wholeSpan : 0;
             int arcs = 0;
             for (int letter = 0; letter < words.letters; letter++) {
                 if (holdsAny(first + letter * span, span)) {
@@ -644,6 +652,7 @@ public final class OneLetterWrong {
     private static final class Text {
         private final int[] code = new int[MOST_BYTES];
         private int codes = 0;
+        private boolean usesHand = false;
         private boolean hasMay = false;
         private int mayStart = 0;
         private int mayStop = 0;
@@ -659,6 +668,7 @@ public final class OneLetterWrong {
 
         void clear() {
             codes = 0;
+            usesHand = false;
             hasMay = false;
             hasWeight = false;
             entries = 0;
@@ -990,41 +1000,50 @@ public final class OneLetterWrong {
 
         private int readWord() {
             int word = kind() == Tokens.LETTERS ? tokens.value[at] : NONE;
-            if (kind() == Tokens.LETTERS && word == NONE) {
+            if (kind() != Tokens.LETTERS) {
+                fail(CANT_STAND);
+            } else if (word == NONE) {
                 fail(WRONG_VALUE);
+            } else {
+                at++;
             }
-            pass(kind() == Tokens.LETTERS);
             return word;
         }
 
         private int readNumber(int least, int most) {
             int number = kind() == Tokens.NUMBER ? tokens.value[at] : NONE;
-            if (kind() == Tokens.NUMBER && (number < least || number > most)) {
+            if (kind() != Tokens.NUMBER) {
+                fail(CANT_STAND);
+            } else if (number < least || number > most) {
                 fail(WRONG_VALUE);
+            } else {
+                at++;
             }
-            pass(kind() == Tokens.NUMBER);
             return number;
         }
 
         private void readMay() {
             target.hasMay = true;
             target.mayStart = target.codes;
-            readBoth();
-            for (int i = 0; i < MOST_BYTES && wrong == 0 && isName(Tokens.OR); i++) {
+            readAsk(0);
+            // an or is done only when all the ands on its right side are
+            boolean waiting = false;
+            for (int i = 0; i < MOST_BYTES && wrong == 0 && (isName(Tokens.OR) || isName(Tokens.AND)); i++) {
+                boolean both = isName(Tokens.AND);
+                if (!both && waiting) {
+                    target.emit(Formula.OR);
+                }
+                waiting |= !both;
                 at++;
-                readBoth();
+                readAsk(0);
+                if (both) {
+                    target.emit(Formula.AND);
+                }
+            }
+            if (waiting) {
                 target.emit(Formula.OR);
             }
             target.mayStop = target.codes;
-        }
-
-        private void readBoth() {
-            readAsk(0);
-            for (int i = 0; i < MOST_BYTES && wrong == 0 && isName(Tokens.AND); i++) {
-                at++;
-                readAsk(0);
-                target.emit(Formula.AND);
-            }
         }
 
         private void readAsk(int open) {
@@ -1046,9 +1065,10 @@ public final class OneLetterWrong {
         private boolean opensOneMore(int open) {
             if (open >= MOST_OPEN) {
                 fail(TOO_DEEP);
+                return false;
             }
-            pass(true);
-            return wrong == 0;
+            at++;
+            return true;
         }
 
         private void readSum(int open) {
@@ -1094,11 +1114,13 @@ public final class OneLetterWrong {
 
         private void readName() {
             int name = at >= 0 && at < tokens.size ? tokens.name[at] : NONE;
-            boolean can = name >= 0 && name < Formula.NAMES;
-            if (can) {
+            if (name >= 0 && name < Formula.NAMES) {
                 target.emit(-1 - name);
+                target.usesHand |= name == Formula.HAND;
+                at++;
+            } else {
+                fail(CANT_STAND);
             }
-            pass(can);
         }
     }
 
@@ -1166,7 +1188,7 @@ public final class OneLetterWrong {
             } else {
                 int right = pop();
                 int left = pop();
-                push(joined(code, left, right));
+                push((int) Math.max(-BOUND, Math.min(BOUND, joined(code, left, right))));
             }
         }
 
@@ -1185,12 +1207,12 @@ public final class OneLetterWrong {
             return stack[height];
         }
 
-        private static int joined(int code, int left, int right) {
+        private static long joined(int code, long left, long right) {
             switch (code) {
-                case ADD: return bounded((long) left + right);
-                case LESS: return bounded((long) left - right);
-                case TIMES: return bounded((long) left * right);
-                case CUT: return right == 0 ? 0 : bounded((long) left / right);
+                case ADD: return left + right;
+                case LESS: return left - right;
+                case TIMES: return left * right;
+                case CUT: return right == 0 ? 0 : left / right;
                 case BELOW: return left < right ? 1 : 0;
                 case AT_MOST: return left <= right ? 1 : 0;
                 case ABOVE: return left > right ? 1 : 0;
@@ -1202,10 +1224,6 @@ public final class OneLetterWrong {
                 default: return 0;
             }
         }
-
-        private static int bounded(long value) {
-            return (int) Math.max(-BOUND, Math.min(BOUND, value));
-        }
     }
 
     /** What each hand may do, and its weight; worked out hand by hand when it is first needed. */
@@ -1215,7 +1233,9 @@ public final class OneLetterWrong {
         private final Words words;
         private final Formula formula = new Formula();
         private final int lasts;
+        // by change: the lasts behind which it may be done, as bits, that of -1 the lowest
         private final int[] open;
+        // by change and last: 0 if it may not be done
         private final int[] weight;
         private int ready = 0;
         private Text source = null;
@@ -1234,10 +1254,21 @@ public final class OneLetterWrong {
 
         /** Has to be called ahead of all that asks what the first n hands may do. */
         void prepare(int n) {
+            boolean alike = source == null || !source.usesHand;
             for (int hand = ready; hand < n && hand < MOST_HANDS; hand++) {
-                prepareHand(hand);
+                if (alike && hand > 0) {
+                    copyFirstHand(hand);
+                } else {
+                    prepareHand(hand);
+                }
                 ready = hand + 1;
             }
+        }
+
+        private void copyFirstHand(int hand) {
+            int changes = words.length * words.letters * words.letters;
+            System.arraycopy(open, 0, open, hand * changes, changes);
+            System.arraycopy(weight, 0, weight, hand * changes * lasts, changes * lasts);
         }
 
         private void prepareHand(int hand) {
@@ -1249,7 +1280,7 @@ public final class OneLetterWrong {
                     for (int into = 0; into < words.letters; into++) {
                         if (into != from) {
                             formula.named[Formula.INTO] = into;
-                            workOut(changeOf(hand, place, from, into), place);
+                            workOut(changesOf(hand, place, from) + into, place);
                         }
                     }
                 }
@@ -1257,47 +1288,25 @@ public final class OneLetterWrong {
         }
 
         private void workOut(int change, int place) {
+            boolean free = source == null || !source.hasMay;
+            boolean plain = source == null || !source.hasWeight;
             open[change] = 0;
             for (int behind = 0; behind < lasts; behind++) {
                 formula.named[Formula.LAST] = behind - 1;
                 formula.named[Formula.FAR] = behind == 0 ? 0 : Math.abs(place - (behind - 1));
-                if (mayNow()) {
+                int sum = 0;
+                if (free || formula.value(source.code, source.mayStart, source.mayStop) != 0) {
                     open[change] |= 1 << behind;
-                    weight[change * lasts + behind] = weightNow();
+                    int told = plain ? 1 : formula.value(source.code, source.weightStart, source.weightStop);
+                    sum = Math.max(1, Math.min(MOST_WEIGHT, told));
                 }
+                weight[change * lasts + behind] = sum;
             }
         }
 
-        private boolean mayNow() {
-            if (source == null || !source.hasMay) {
-                return true;
-            }
-            return formula.value(source.code, source.mayStart, source.mayStop) != 0;
-        }
-
-        private int weightNow() {
-            if (source == null || !source.hasWeight) {
-                return 1;
-            }
-            int value = formula.value(source.code, source.weightStart, source.weightStop);
-            return Math.max(1, Math.min(MOST_WEIGHT, value));
-        }
-
-        private int changeOf(int hand, int place, int from, int into) {
-            return ((hand * words.length + place) * words.letters + from) * words.letters + into;
-        }
-
-        /** Behind which lasts a hand may do this: bits, that of last -1 the lowest. */
-        int openTo(int hand, int place, int from, int into) {
-            int change = changeOf(hand, place, from, into);
-            return change >= 0 && change < open.length ? open[change] : 0;
-        }
-
-        /** The weight of what may be done behind this last (0: -1), 0 if it may not. */
-        int weightOf(int hand, int place, int from, int into, int behind) {
-            int at = changeOf(hand, place, from, into) * lasts + behind;
-            boolean may = (openTo(hand, place, from, into) >> behind & 1) != 0;
-            return may && at >= 0 && at < weight.length ? weight[at] : 0;
+        /** Where the changes of this letter at this place by this hand stand in the rows, by what it becomes. */
+        int changesOf(int hand, int place, int from) {
+            return ((hand * words.length + place) * words.letters + from) * words.letters;
         }
 
         /** A word behind n hands that draw what they do. */
@@ -1323,8 +1332,9 @@ public final class OneLetterWrong {
             int found = 0;
             for (int place = 0; place < words.length; place++) {
                 int from = words.letter(word, place);
+                int first = changesOf(hand, place, from);
                 for (int into = 0; into < words.letters; into++) {
-                    if (into != from && (openTo(hand, place, from, into) >> behind & 1) != 0) {
+                    if (into != from && (open[first + into] >> behind & 1) != 0) {
                         if (found == i) {
                             return 10 * place + into;
                         }
@@ -1348,7 +1358,7 @@ public final class OneLetterWrong {
         Paths(Words words, Vow vow) {
             this.words = words;
             this.vow = vow;
-            everyLast = (1 << words.length + 1) - 1;
+            everyLast = (1 << (words.length + 1)) - 1;
             bits = new int[MOST_HANDS + 1][words.count];
             comers = new int[words.count];
         }
@@ -1370,10 +1380,14 @@ public final class OneLetterWrong {
             int open = 0;
             for (int place = 0; place < words.length; place++) {
                 int from = words.letter(word, place);
+                int first = vow.changesOf(hand, place, from);
+                int other = words.cleared(word, place);
+                int bit = 1 << (place + 1);
                 for (int into = 0; into < words.letters; into++) {
-                    if (into != from && (next[words.changed(word, place, into)] >> place + 1 & 1) != 0) {
-                        open |= vow.openTo(hand, place, from, into);
+                    if (into != from && (next[other] & bit) != 0) {
+                        open |= vow.open[first + into];
                     }
+                    other += words.power[place];
                 }
             }
             return open;
@@ -1401,12 +1415,13 @@ public final class OneLetterWrong {
         }
 
         private int deedOf(int hand, int word, int behind) {
+            int[] next = bits[hand + 1];
             for (int place = 0; place < words.length; place++) {
                 int from = words.letter(word, place);
+                int first = vow.changesOf(hand, place, from);
                 for (int into = 0; into < words.letters; into++) {
-                    if (into != from
-                            && (bits[hand + 1][words.changed(word, place, into)] >> place + 1 & 1) != 0
-                            && (vow.openTo(hand, place, from, into) >> behind & 1) != 0) {
+                    boolean may = into != from && (vow.open[first + into] >> behind & 1) != 0;
+                    if (may && (next[words.changed(word, place, into)] >> (place + 1) & 1) != 0) {
                         return 10 * place + into;
                     }
                 }
@@ -1433,10 +1448,13 @@ public final class OneLetterWrong {
             int[] next = bits[hand + 1];
             for (int place = 0; place < words.length; place++) {
                 int from = words.letter(word, place);
+                int first = vow.changesOf(hand, place, from);
+                int other = words.cleared(word, place);
                 for (int into = 0; into < words.letters; into++) {
-                    if (into != from && (vow.openTo(hand, place, from, into) & behind) != 0) {
-                        next[words.changed(word, place, into)] |= 1 << place + 1;
+                    if (into != from && (vow.open[first + into] & behind) != 0) {
+                        next[other] |= 1 << (place + 1);
                     }
+                    other += words.power[place];
                 }
             }
         }
@@ -1528,24 +1546,23 @@ public final class OneLetterWrong {
         private void countWord(int hand, int word) {
             for (int place = 0; place < words.length; place++) {
                 int from = words.letter(word, place);
+                int first = vow.changesOf(hand, place, from);
+                int other = words.cleared(word, place) * lasts + place + 1;
                 for (int into = 0; into < words.letters; into++) {
-                    if (into != from) {
-                        long rest = nextSums[words.changed(word, place, into) * lasts + place + 1];
-                        if (rest != 0) {
-                            addChange(hand, word, place, into, rest);
-                        }
+                    if (into != from && nextSums[other] != 0) {
+                        addChange(hand, word, first + into, nextSums[other]);
                     }
+                    other += words.power[place] * lasts;
                 }
             }
         }
 
-        private void addChange(int hand, int word, int place, int into, long rest) {
-            int from = words.letter(word, place);
+        private void addChange(int hand, int word, int change, long rest) {
             // hand 0 has none ahead, and every other one has
             int least = hand == 0 ? 0 : 1;
             int most = hand == 0 ? 0 : words.length;
             for (int behind = least; behind <= most; behind++) {
-                sums[word * lasts + behind] += vow.weightOf(hand, place, from, into, behind) * rest;
+                sums[word * lasts + behind] += vow.weight[change * lasts + behind] * rest;
             }
         }
     }
@@ -1593,8 +1610,9 @@ public final class OneLetterWrong {
             if (known == NONE) {
                 return;
             }
+            int first = known * lasts;
             for (int i = 0; i < costs.length; i++) {
-                if (i / lasts != known) {
+                if (i < first || i >= first + lasts) {
                     costs[i] = NEVER;
                 }
             }
@@ -1616,16 +1634,35 @@ public final class OneLetterWrong {
         }
 
         private void passWord(int hand, int word) {
+            int best = bestBehind(word);
+            int bestCost = nextCosts[word * lasts + best];
+            if (bestCost >= NEVER) {
+                return;
+            }
             for (int place = 0; place < words.length; place++) {
                 int from = words.letter(word, place);
+                int first = vow.changesOf(hand, place, from);
+                int other = words.cleared(word, place) * lasts + place + 1;
                 for (int into = 0; into < words.letters; into++) {
                     if (into != from) {
-                        int cost = leastBehind(word, vow.openTo(hand, place, from, into));
-                        int at = words.changed(word, place, into) * lasts + place + 1;
-                        costs[at] = Math.min(costs[at], cost);
+                        int open = vow.open[first + into];
+                        // most often the cheapest last will do, and the others needn't be looked through
+                        int cost = (open >> best & 1) != 0 ? bestCost : leastBehind(word, open);
+                        costs[other] = Math.min(costs[other], cost);
                     }
+                    other += words.power[place] * lasts;
                 }
             }
+        }
+
+        private int bestBehind(int word) {
+            int best = 0;
+            for (int behind = 1; behind < lasts; behind++) {
+                if (nextCosts[word * lasts + behind] < nextCosts[word * lasts + best]) {
+                    best = behind;
+                }
+            }
+            return best;
         }
 
         private int leastBehind(int word, int open) {
