@@ -413,10 +413,10 @@ public final class OneLetterWrong {
         Words(int wantedLetters, int wantedLength) {
             letters = Math.max(2, Math.min(5, wantedLetters));
             length = lengthFor(letters, wantedLength);
-            count = power(letters, length);
+            count = raised(letters, length);
             power = new int[length];
             for (int place = 0; place < length; place++) {
-                power[place] = power(letters, length - 1 - place);
+                power[place] = raised(letters, length - 1 - place);
             }
             letterAt = new int[count * length];
             for (int word = 0; word < count; word++) {
@@ -430,13 +430,13 @@ public final class OneLetterWrong {
 
         private static int lengthFor(int letters, int wanted) {
             int length = Math.max(2, Math.min(8, wanted));
-            for (int i = 0; i < 8 && power(letters, length) > MOST_COUNT; i++) {
+            for (int i = 0; i < 8 && raised(letters, length) > MOST_COUNT; i++) {
                 length--;
             }
             return length;
         }
 
-        static int power(int base, int times) {
+        static int raised(int base, int times) {
             int product = 1;
             for (int i = 0; i < times; i++) {
                 product *= base;
@@ -542,7 +542,7 @@ public final class OneLetterWrong {
 
         /** Whether the first letters of two words are completed by just the same ends. */
         boolean sameEnds(int one, int other, int depth) {
-            int span = Words.power(words.letters, words.length - depth);
+            int span = Words.raised(words.letters, words.length - depth);
             if (span <= 0) {
                 return false;
             }
@@ -583,7 +583,7 @@ public final class OneLetterWrong {
             if (depth >= words.length) {
                 return 0;
             }
-            int span = Words.power(words.letters, words.length - depth - 1);
+            int span = Words.raised(words.letters, words.length - depth - 1);
             int wholeSpan = span * words.letters;
             int first = wholeSpan > 0 ? member - member % wholeSpan : 0;
             int arcs = 0;

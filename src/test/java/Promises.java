@@ -179,6 +179,16 @@ public final class Promises {
         fault(3, 2, "may place < 1;" + (char) 0, 1, 14);
         fault(3, 2, "may place < 1;" + (char) 200, 1, 14);
         fault(3, 2, "may place < 1; ;", 1, 15);
+        fault(3, 2, ";".repeat(300), 1, 0);
+        fault(3, 2, "weight " + "1+".repeat(145) + "1;", 0, 0);
+        fault(3, 2, "weight " + "1+".repeat(145) + "1; ", 0, 0);
+        fault(3, 2, "weight " + "1+".repeat(146) + "1", 1, 300);
+        fault(3, 2, " ".repeat(300), 0, 0);
+        fault(3, 2, "\n".repeat(299) + "@", 1, 299);
+        fault(3, 2, "may 1<1[;", 1, 7);
+        fault(3, 2, "may 1<1`;", 1, 7);
+        fault(3, 2, "may 1<1{;", 1, 7);
+        fault(3, 2, "may 1<1:;", 1, 7);
         fault(3, 2, "MAY place < 1;", 1, 0);
         fault(3, 2, "mayplace < 1;", 1, 0);
         fault(3, 2, "may Place < 1;", 1, 4);
@@ -224,6 +234,9 @@ public final class Promises {
         fault(3, 2, "book ab 10000;", 2, 8);
         fault(3, 2, "book ad 1;", 2, 5);
         fault(3, 2, "book aB 1;", 2, 5);
+        fault(3, 2, "book zz 1;", 2, 5);
+        fault(3, 2, "book AZ 1;", 2, 5);
+        fault(3, 2, "book a[ 1;", 2, 5);
         fault(3, 2, "book a 1;", 2, 5);
         fault(3, 2, "book aaa 1;", 2, 5);
         fault(3, 2, "book 10000 1;", 1, 5);
