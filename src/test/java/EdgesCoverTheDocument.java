@@ -13,7 +13,7 @@ import java.util.Map;
  */
 public final class EdgesCoverTheDocument {
     private static final Path DOCUMENT = Path.of("../shared/DOC.md");
-    private static final List<Class<?>> TESTS = List.of(EdgesTerms1.class, EdgesTerms2.class, EdgesTerms3.class,
+    static final List<Class<?>> TESTS = List.of(EdgesTerms1.class, EdgesTerms2.class, EdgesTerms3.class,
             EdgesTerms4.class, EdgesPromises01To10.class, EdgesPromises11To21.class, EdgesPromises22To28.class);
     private static final List<String> PARTS = List.of("I", "II", "III", "IV");
     private static int wrong = 0;

@@ -151,10 +151,12 @@ public final class EdgesPromises01To10 extends Edges {
         x.put(7, 1);
         x.put(0, 2);
         x.put(3, 3);
-        due("the middle one", x.take(0), 2);
-        due("those left", bookOf(x), 7, 3);
-        due("with their priors", new long[] {x.about(10), x.about(11), x.about(12)}, 1, 3, -2);
-        due("the last one", x.take(3), 1);
+        x.put(5, 4);
+        due("one in the middle", x.take(0), 3);
+        due("those left", bookOf(x), 7, 3, 5);
+        due("with their priors", new long[] {x.about(10), x.about(11), x.about(12), x.about(13)}, 1, 3, 4, -2);
+        due("the last one", x.take(5), 2);
+        due("the next", x.take(3), 1);
         due("the only one", x.take(7), 0);
         due("none are left", bookOf(x));
     }
@@ -306,6 +308,23 @@ public final class EdgesPromises01To10 extends Edges {
         x.by(0);
         due("nothing of it stays: one road", x.about(9), 1);
         due("no second text", x.by(1), false);
+    }
+
+    @Says(at = "Promise 6: text", value = "NONE: it has a FAULT;")
+    static void promise06_nothing_of_a_text_with_a_fault_stays() {
+        OneLetterWrong x = new OneLetterWrong(2, 2);
+        due("a fault", Tape.read(x, "may 1=2; weight 7; book ab 1; book ba 2; road 3 to 3; road 4 to 4; ;"), NONE);
+        due("the next text", Tape.read(x, "book bb 3; road 0 to 0;"), 0);
+        x.by(0);
+        due("all may be", x.heard(0, 1, NONE), 2);
+        due("weight 1", x.ways(0, 1, 1), 1);
+        due("one word", x.filled(0), 1);
+        due("it", bookOf(x), 3);
+        due("one road", new long[] {x.about(9), bit(x.road(0, 0, 0))}, 1, 1);
+        due("a very long one", Tape.read(x, "weight " + "1+".repeat(146) + "1"), NONE);
+        due("the next very long one", Tape.read(x, "weight " + "1+".repeat(140) + "1-136;"), 1);
+        x.by(1);
+        due("is worked out whole", x.ways(0, 1, 1), 5);
     }
 
     @Says(at = "Promise 6: text", value = "NONE: it has a FAULT;")

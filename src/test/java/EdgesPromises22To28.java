@@ -226,20 +226,27 @@ public final class EdgesPromises22To28 extends Edges {
         }
         x.by(3);
         x.log(8);
-        for (int i = 0; i < 40; i++) {
-            x.said(i % 9, i, i);
+        x.said(0, 0, 0);
+        for (int i = 0; i < 38; i++) {
+            x.said(2, NONE, 0);
         }
+        // the same word behind hand 0, the 40th told
+        x.said(1, 0, 39);
         x.image();
-        int broken = x.broke(99, 1);
         for (int w = 0; w < 40; w++) {
-            x.take(w);
+            x.take(39 - w);
+            x.put(63 - w, 9);
         }
         x.by(0);
-        x.log(0);
+        x.log(1);
+        for (int i = 0; i < 40; i++) {
+            x.said(0, 4, 99);
+        }
         due("back", x.back(), 40);
         due("the last word and its prior", new long[] {x.book(39), x.about(49)}, 39, 4);
         due("texts, the text, roads", new long[] {x.about(3), x.about(4), x.about(9)}, 4, 3, 1);
-        due("the log", new long[] {x.about(6), x.about(7), x.broke(99, 1)}, 8, 40, broken);
+        due("the log", new long[] {x.about(6), x.about(7)}, 8, 40);
+        due("the last one told", new long[] {x.broke(38, 1), x.broke(39, 1)}, 0, 1);
         due("the vow", x.bars(0, 4, 1), 0);
     }
 
@@ -252,7 +259,7 @@ public final class EdgesPromises22To28 extends Edges {
         x.image();
         for (int i = 0; i < 3; i++) {
             x.take(3);
-            x.put(0, 1);
+            due("another word", x.put(0, 1), 1);
             x.log(2);
             due("back once more", x.back(), 1);
             due("the word", new long[] {x.book(0), x.about(10), x.about(6)}, 3, 7, 0);

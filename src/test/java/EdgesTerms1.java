@@ -144,6 +144,7 @@ public final class EdgesTerms1 extends Edges {
         OneLetterWrong x = new OneLetterWrong(2, 2);
         x.put(3, 2);
         due("the same with another prior", x.put(3, 4), NONE);
+        due("the prior stays", x.about(10), 2);
         x.put(0, 5);
         due("the same with the same prior", x.put(3, 2), NONE);
         due("once there", bookOf(x), 3, 0);

@@ -210,6 +210,9 @@ public final class EdgesTerms2 extends Edges {
         may("1=1 or 1=2", true);
         may("1=2 or 1=3", false);
         may("1=2 or 1=2 or 1=2 or 1=2 or 1=2 or 1=1", true);
+        may("1=1 or 1=2 or 1=2 or 1=2 or 1=2 or 1=2", true);
+        may("1=2 or 1=2 or 1=1 and 1=1 or 1=2 or 1=2", true);
+        may("1=2 or 1=2 or 1=2", false);
         fault(2, 2, "may or 1=1;", 1, 4);
         fault(2, 2, "may 1=1 or;", 1, 10);
         fault(2, 2, "may 1=1 or or 1=1;", 1, 11);
@@ -222,6 +225,8 @@ public final class EdgesTerms2 extends Edges {
         may("1=1 and 1=2", false);
         may("1=2 and 1=1", false);
         may("1=1 and 1=1 and 1=1 and 1=1 and 1=2", false);
+        may("1=2 and 1=1 and 1=1 and 1=1 and 1=1", false);
+        may("1=1 and 1=1 and 1=1", true);
         may("1=1 or 1=1 and 1=2", true);
         may("1=2 and 1=1 or 1=1", true);
         may("1=2 and 1=2 or 1=1 and 1=1", true);

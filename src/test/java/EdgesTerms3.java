@@ -93,6 +93,10 @@ public final class EdgesTerms3 extends Edges {
         due("eight hands", rowOf(x, 0, 0, 8), 1, 0, 1, 0, 1, 0, 1, 0);
         OneLetterWrong y = ruled(2, 3, "may place # last;");
         due("never the same place again", rowOf(y, 0, 0, 4), 1, 11, 0, 10);
+        due("so place 0 comes again only behind another one", rowOf(y, 0, 1, 3), 1, 21, 0);
+        OneLetterWrong z = ruled(2, 8, "may place = last - 1 or hand = 0 and place = 7;");
+        due("one place after the other from the last one", rowOf(z, 0, 255, 8), 71, 61, 51, 41, 31, 21, 11, 1);
+        due("and back", rowOf(z, 255, 0, 8), 70, 60, 50, 40, 30, 20, 10, 0);
     }
 
     @Says(at = TERMS, value = "BARS: 0: it can COME;")
@@ -140,6 +144,7 @@ public final class EdgesTerms3 extends Edges {
         due("all of five letters by two", new OneLetterWrong(5, 2).heard(0, 2, NONE), 25);
         due("all of five letters by eight", new OneLetterWrong(5, 3).heard(0, 8, NONE), 125);
         due("none", ruled(2, 3, "may 1=2;").heard(0, 1, NONE), 0);
+        due("behind either place", hears(ruled(2, 2, "may place # last;"), 0, 3), 1, 2);
     }
 
     @Says(at = TERMS, value = "ODDS of a HEARD word by n HANDS: of a WORD of THE BOOK PRIOR times WAYS, by all these together,")
@@ -225,6 +230,11 @@ public final class EdgesTerms3 extends Edges {
         due("aa, bb, ab: a has one end more", x.tree(0), 4);
         x.put(2, 1);
         due("all: a and b are one", x.tree(0), 3);
+        x.take(2);
+        x.take(1);
+        x.take(0);
+        putAll(x, 0, 1);
+        due("bb, aa, ab: in another order", x.tree(0), 4);
         OneLetterWrong y = new OneLetterWrong(2, 4);
         putAll(y, word(2, "aaba"), word(2, "abaa"), word(2, "abbb"), word(2, "baaa"));
         // behind two letters: aa has ba, ab has aa and bb, ba has aa; behind three: aab, aba, baa have a, abb has b
@@ -316,6 +326,7 @@ public final class EdgesTerms3 extends Edges {
         due("by none they are themselves", ruledBook("may 1=2;", 0, 3, 5).apart(0), 7);
         due("by the vow: place 0 alone", ruledBook("may place = 0;", 0, 3, 4).apart(1), 7);
         due("by the vow: all become b", ruledBook("may into = 1;", 3, 5, 6).apart(1), 1);
+        due("by the vow: all become a", ruledBook("may into = 0;", 1, 2, 4).apart(1), 1);
     }
 
     private static OneLetterWrong ruledBook(String text, int... words) {

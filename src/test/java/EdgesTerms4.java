@@ -162,6 +162,25 @@ public final class EdgesTerms4 extends Edges {
     }
 
     @Says(at = TERMS, value = "so that all told AS OF a TIME can be;")
+    static void terms4_any_place_that_the_hand_ahead_can_have_changed_will_do() {
+        for (int end = 1; end <= 2; end++) {
+            OneLetterWrong x = ruled(2, 2, "may place # last;");
+            x.log(3);
+            x.said(0, 0, 0);
+            x.said(2, 3, 0);
+            x.said(3, end, 0);
+            broke("aa, .., bb, then " + end, x, 0, 0, 0);
+        }
+        OneLetterWrong y = ruled(2, 8, "may place = last - 1 or hand = 0 and place = 7;");
+        y.log(8);
+        y.said(0, 0, 0);
+        y.said(8, 255, 0);
+        broke("one place after the other from the last one", y, 0, 0, 0);
+        y.said(4, 14, 0);
+        broke("14 isn't between", y, 0, 5, 8 | 16 | 32 | 64 | 128);
+    }
+
+    @Says(at = TERMS, value = "so that all told AS OF a TIME can be;")
     static void terms4_all_that_was_told_has_to_be() {
         OneLetterWrong x = new OneLetterWrong(2, 3);
         x.log(4);
@@ -271,6 +290,11 @@ public final class EdgesTerms4 extends Edges {
         // X is 20: b at place 1; X is 4273: c at place 0, c at place 1, the second
         due("by hand 0", y.message(1, 0, 1), word(3, "ab"));
         due("by hand 1", y.message(1, 0, 2), word(3, "ac"));
+        OneLetterWrong z = ruled(2, 8, "may place = last - 1 or hand = 0 and place = 7;");
+        for (int n = 1; n <= 8; n++) {
+            due("one place after the other from the last one", z.message(n, 0, n), (1 << n) - 1);
+            due("and back", z.message(n, 255, n), 256 - (1 << n));
+        }
     }
 
     @Says(at = TERMS, value = "WEIGHTS aside);")
@@ -309,7 +333,7 @@ public final class EdgesTerms4 extends Edges {
         x.take(5);
         x.put(5, 9);
         x.put(7, 1);
-        Tape.read(x, "may place = 1;");
+        Tape.read(x, "may place = 1 or place = 2;");
         x.by(1);
         logged(x, 0, 0, 0, 0);
         x.back();
@@ -354,8 +378,9 @@ public final class EdgesTerms4 extends Edges {
     }
 
     @Says(at = TERMS, value = "The constants: `NONE = -1`: None.")
-    static void terms4_none_is_less_1() {
-        due("NONE", OneLetterWrong.NONE, -1);
+    static void terms4_none_is_less_1() throws ReflectiveOperationException {
+        // read from the class itself: a constant would be put into the test when it is compiled
+        due("NONE", OneLetterWrong.class.getField("NONE").getInt(null), -1);
     }
 
     @Says(at = TERMS, value = "BACK: all is so again.")
