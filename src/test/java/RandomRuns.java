@@ -32,6 +32,9 @@ public final class RandomRuns {
 
     private void go() {
         int before = wrong;
+        if (random.nextInt(3) == 0) {
+            fillUp();
+        }
         for (int i = 0; i < 120 && calls < 500 && wrong == before; i++) {
             if (random.nextInt(9) == 0) {
                 layText();
@@ -82,6 +85,24 @@ public final class RandomRuns {
 
     private int index() {
         return random.nextInt(3) == 0 ? -1 : within(0, Math.max(1, plain.now.book.size()));
+    }
+
+    /** Brings the book and the log near to what they may have at most, so that runs meet full ones. */
+    private void fillUp() {
+        int most = Math.min(36 + random.nextInt(5), plain.n);
+        for (int i = 0; i < 200 && plain.now.book.size() < most; i++) {
+            int w = random.nextInt(plain.n);
+            int p = 1 + random.nextInt(9);
+            same("put(" + w + ", " + p + ")", x.put(w, p), plain.put(w, p));
+        }
+        int hands = random.nextInt(plain.n > 100 ? 4 : 9);
+        same("log(" + hands + ")", bit(x.log(hands)), bit(plain.log(hands)));
+        for (int i = 34 + random.nextInt(7); i > 0; i--) {
+            int hand = random.nextInt(hands + 1);
+            int w = random.nextInt(4) == 0 ? -1 : random.nextInt(plain.n);
+            int time = random.nextInt(100);
+            same("said(" + hand + ", " + w + ", " + time + ")", x.said(hand, w, time), plain.said(hand, w, time));
+        }
     }
 
     private void layText() {
