@@ -321,9 +321,13 @@ public final class EdgesPromises01To10 extends Edges {
         due("one word", x.filled(0), 1);
         due("it", bookOf(x), 3);
         due("one road", new long[] {x.about(9), bit(x.road(0, 0, 0))}, 1, 1);
-        due("a very long one", Tape.read(x, "weight " + "1+".repeat(146) + "1"), NONE);
-        due("the next very long one", Tape.read(x, "weight " + "1+".repeat(140) + "1-136;"), 1);
+        due("another fault", Tape.read(x, "may 1=2 or 1=2; weight 7; ;"), NONE);
+        due("the formulas the other way round", Tape.read(x, "weight 5; may place = 1;"), 1);
         x.by(1);
+        due("they are those of this text", new long[] {x.ways(0, 1, 1), x.ways(0, 2, 1)}, 5, 0);
+        due("a very long one", Tape.read(x, "weight " + "1+".repeat(146) + "1"), NONE);
+        due("the next very long one", Tape.read(x, "weight " + "1+".repeat(140) + "1-136;"), 2);
+        x.by(2);
         due("is worked out whole", x.ways(0, 1, 1), 5);
     }
 

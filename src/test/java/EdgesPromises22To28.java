@@ -281,6 +281,10 @@ public final class EdgesPromises22To28 extends Edges {
         due("another text 1", Tape.read(x, "may 1=2;"), 1);
         x.by(1);
         due("it rules", new long[] {x.about(9), x.heard(0, 1, NONE)}, 0, 0);
+        x.back();
+        due("a third text 1", Tape.read(x, "weight 3; may place = 1;"), 1);
+        x.by(1);
+        due("it rules by its own formulas", new long[] {x.ways(0, 1, 1), x.ways(0, 2, 1)}, 3, 0);
         x.by(0);
         due("text 0 is as it was", new long[] {x.about(9), x.heard(0, 1, 0)}, 1, 2);
     }

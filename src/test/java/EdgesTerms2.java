@@ -34,6 +34,21 @@ public final class EdgesTerms2 extends Edges {
         sum("1+".repeat(145) + " 1", 9);
     }
 
+    @Says(at = TERMS, value = "of up to 300 bytes.")
+    static void terms2_each_of_300_bytes_may_be_a_token() {
+        for (String two : new String[] {";;", "((", "--", "a1", "1a", "<>", "!!"}) {
+            fault(2, 2, two.repeat(150), 1, 0);
+        }
+        // at the very end there is no byte behind a sign that could belong to it
+        fault(2, 2, "may 1" + " ".repeat(294) + "<", 1, 300);
+        fault(2, 2, "may 1" + " ".repeat(294) + ">", 1, 300);
+        OneLetterWrong x = new OneLetterWrong(2, 2);
+        Tape.lay(x, "may 1<=1;");
+        x.end(6);
+        due("nor is there one that was cut off", x.text(), NONE);
+        due("so the end can't stand there", new long[] {x.fault(0), x.fault(1)}, 1, 6);
+    }
+
     @Says(at = TERMS, value = "TOKENS, blanks (32, 10) aside:")
     static void terms2_bytes_32_and_10_alone_are_blanks() {
         for (int one = 0; one < 256; one++) {
@@ -258,6 +273,9 @@ public final class EdgesTerms2 extends Edges {
             for (int k = 0; k < 6; k++) {
                 may(left + " " + signs[k] + " 2", so[left - 1][k]);
                 may("-" + left + " " + signs[k] + " -2", so[3 - left][k]);
+                may("not " + left + " " + signs[k] + " 2", !so[left - 1][k]);
+                may("0 = 0 and " + left + " " + signs[k] + " 2", so[left - 1][k]);
+                may("0 = 1 or " + left + " " + signs[k] + " 2", so[left - 1][k]);
             }
         }
         fault(2, 2, "may 1<2<3;", 1, 7);
@@ -345,6 +363,15 @@ public final class EdgesTerms2 extends Edges {
         due("behind place 0 alone", hears(y, 0, 2), word(2, "bab"));
         OneLetterWrong z = ruled(2, 8, "may last = -1 or last = 7 and place = 6;");
         due("behind place 7 alone", hears(z, 0, 2), 3);
+        OneLetterWrong first = ruled(2, 3, "may last = -1; weight 5; road 0 to 8;");
+        due("one hand has none ahead: bars, ways, row", new long[] {first.bars(0, 2, 1), first.ways(0, 2, 1),
+            first.row(0, 2, 1, 0)}, 0, 5, 11);
+        due("two have: bars, ways, row", new long[] {first.bars(0, 3, 2), first.ways(0, 3, 2), first.row(0, 3, 2, 0)},
+                2, 0, NONE);
+        due("the road goes by one alone", new long[] {bit(first.road(0, 2, 0)), bit(first.road(0, 3, 0))}, 1, 0);
+        OneLetterWrong never = ruled(2, 3, "may last = 0; road 1 to 1;");
+        due("none isn't place 0: bars, ways, heard, road", new long[] {never.bars(0, 2, 1), never.ways(0, 2, 1),
+            never.heard(0, 1, NONE), bit(never.road(0, 2, 0))}, 2, 0, 0, 0);
         OneLetterWrong once = ruled(2, 3, "may hand < 2 or place = last;");
         due("the hand ahead, not one further ahead", once.ways(0, word(2, "baa"), 3), 3);
     }
@@ -498,6 +525,16 @@ public final class EdgesTerms2 extends Edges {
         fault(2, 2, "weight 1" + (char) 255 + ";", 1, 8);
         fault(2, 2, "weight 1\t;", 1, 8);
         fault(2, 2, "weight 1\r;", 1, 8);
+        // where a number, a word, a sign or the end of a clause is wanted
+        fault(2, 2, "weight !;", 1, 7);
+        fault(2, 2, "may 1 ! 1;", 1, 6);
+        fault(2, 2, "may 1 = !;", 1, 8);
+        fault(2, 2, "book ! 1;", 1, 5);
+        fault(2, 2, "book ab !;", 1, 8);
+        fault(2, 2, "road ! to 1;", 1, 5);
+        fault(2, 2, "road 1 ! 1;", 1, 7);
+        fault(2, 2, "road 1 to !;", 1, 10);
+        fault(2, 2, "road 1 to 1!", 1, 11);
     }
 
     @Says(at = TERMS, value = "2 a NUMBER that isn't one of those told (above 9999;")
